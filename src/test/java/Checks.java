@@ -1,5 +1,6 @@
 import java.util.ArrayList;
 import java.util.List;
+import java.util.function.Supplier;
 
 /** Compares answers with those that are due, and counts the wrong ones. */
 final class Checks {
@@ -8,8 +9,19 @@ final class Checks {
         Integer.MAX_VALUE - 1, Integer.MAX_VALUE};
 
     private int wrong;
+    private int made;
+
+    int wrong() {
+        return wrong;
+    }
+
+    /** How many answers were looked at. */
+    int made() {
+        return made;
+    }
 
     void due(String call, long want, long got) {
+        made++;
         if (got != want) {
             wrong++;
             System.out.println(call + " answered " + got + ", due is " + want);
@@ -71,6 +83,7 @@ final class Checks {
     void same(String call, List<String> before, List<String> after) {
         due(call + ": number of values", before.size(), after.size());
         for (int k = 0; k < before.size() && k < after.size(); k++) {
+            made++;
             if (!before.get(k).equals(after.get(k))) {
                 wrong++;
                 System.out.println(call + ": was " + before.get(k) + ", became " + after.get(k));
@@ -89,6 +102,29 @@ final class Checks {
             kept.removeIf(line -> line.startsWith(start + " "));
         }
         return kept;
+    }
+
+    /** Makes the call and compares its answer. */
+    void answers(DumpLevels x, Call call, int want) {
+        due(call.text(), want, call.on(x));
+    }
+
+    /** Makes the call and compares its answer and all that it changed, each as "asking call = new answer". */
+    void changes(DumpLevels x, Call call, int want, String... changed) {
+        int[] before = Shown.by(x);
+        answers(x, call, want);
+        List<String> due = new ArrayList<>(List.of(changed));
+        List<String> got = Shown.changes(before, Shown.by(x));
+        due.sort(null);
+        got.sort(null);
+        due(call.text() + " changed " + got + ", due is " + due, true, due.equals(got));
+    }
+
+    /** Makes the call and sees that nothing changed, neither what is shown now nor what later calls answer. */
+    void changesNothing(Supplier<DumpLevels> make, Call call, int want) {
+        DumpLevels x = make.get();
+        changes(x, call, want);
+        same(call.text() + ", then later calls", Shown.laterOf(make.get()), Shown.laterOf(x));
     }
 
     /** The five fields of a live inode. */
