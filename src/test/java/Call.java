@@ -5,4 +5,9 @@ record Call(String text, ToIntFunction<DumpLevels> ask) {
     int on(DumpLevels x) {
         return ask.applyAsInt(x);
     }
+
+    /** The name of the method that is called. */
+    String method() {
+        return text.substring(0, text.indexOf('('));
+    }
 }

@@ -120,11 +120,18 @@ final class Checks {
         due(call.text() + " changed " + got + ", due is " + due, true, due.equals(got));
     }
 
-    /** Makes the call and sees that nothing changed, neither what is shown now nor what later calls answer. */
+    /**
+     * Makes the call and sees that nothing changed: not what the object shows before and after, nor what it
+     * shows and answers later beside one on which the call was not made, with the called method used there
+     * and without it.
+     */
     void changesNothing(Supplier<DumpLevels> make, Call call, int want) {
-        DumpLevels x = make.get();
-        changes(x, call, want);
-        same(call.text() + ", then later calls", Shown.laterOf(make.get()), Shown.laterOf(x));
+        changes(make.get(), call, want);
+        for (String leftOut : new String[] {"none", call.method()}) {
+            DumpLevels x = make.get();
+            answers(x, call, want);
+            same(call.text() + ", then later calls", Shown.laterOf(make.get(), leftOut), Shown.laterOf(x, leftOut));
+        }
     }
 
     /** The five fields of a live inode. */

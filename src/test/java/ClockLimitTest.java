@@ -19,8 +19,8 @@ public final class ClockLimitTest extends Sentences {
             + "of exactly one dump, so each dj exists and is unique.", ClockLimitTest::chain2EachDateIsOneDumpsStamp);
         section("Promise 14, at Integer.MAX_VALUE");
         holds(14, "Chain restore: for every sequence of calls in which the clock has not passed Integer.MAX_VALUE, and "
-            + "every taken dump d with chain d1, .., dk = d, if `restoreReset()` is followed by `restoreApply(d1)`, .., "
-            + "`restoreApply(dk)`, every one of these answers `OK`.", ClockLimitTest::promise14Sentence14);
+            + "every taken dump d with chain d1, .., dk = d, if `restoreReset()` is followed by `restoreApply(d1)`, "
+            + ".., `restoreApply(dk)`, every one of these answers `OK`.", ClockLimitTest::promise14Sentence14);
         holds(15, "Afterwards `restoreStamp()` equals STAMP(d).", ClockLimitTest::promise14Sentence15);
         holds(16, "For every inode i in 0..N-1 and every field f in 0..4, `restoredInfo(i, f)` equals the value "
             + "`inodeInfo(i, f)` had right after `dump(...)` returned d.", ClockLimitTest::promise14Sentence16);
@@ -160,7 +160,7 @@ public final class ClockLimitTest extends Sentences {
     private static void rule7NothingIsThrownPastTheLimit(Checks is) {
         for (DumpLevels x : near) {
             x.write(3, 1);
-            is.due("later calls end", true, !Shown.laterOf(x).isEmpty());
+            is.due("later calls end", true, !Shown.laterOf(x, "none").isEmpty());
         }
     }
 }

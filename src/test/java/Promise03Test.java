@@ -103,6 +103,16 @@ public final class Promise03Test extends Sentences {
     }
 
     private static void sentence8ChangesNothingElse(Checks is) {
+        // The first write there is, so that nothing of an earlier one hides a change.
+        DumpLevels first = new DumpLevels(6, 4);
+        first.create(0, 10, DIR);
+        first.create(1, 11, FILE);
+        first.create(1, 12, DIR);
+        first.create(0, 13, FILE);
+        first.dump(0);
+        first.restoreApply(0);
+        is.changes(first, write(2, 5), OK, "getClock() = 6", "inodeInfo(2, CONTENT) = 5", "inodeInfo(2, STAMP) = 6",
+            "restoreMatches() = 0");
         is.changes(States.busy(), write(2, 5), OK, "getClock() = 9", "inodeInfo(2, CONTENT) = 5",
             "inodeInfo(2, STAMP) = 9");
         is.changes(States.full(), write(5, MIN), OK, "getClock() = 10", "inodeInfo(5, CONTENT) = " + MIN,

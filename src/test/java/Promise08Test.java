@@ -30,6 +30,7 @@ public final class Promise08Test extends Sentences {
     private static void sentence2NothingChanges(Checks is) {
         is.changesNothing(States::least, getClock(), 0);
         is.changesNothing(States::greatest, getClock(), 0);
+        is.changesNothing(States::dumped, getClock(), 8);
         is.changesNothing(States::busy, getClock(), 8);
         is.changesNothing(States::full, getClock(), 9);
         is.changesNothing(States::crowded, getClock(), 31);

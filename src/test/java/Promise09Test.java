@@ -98,7 +98,9 @@ public final class Promise09Test extends Sentences {
         is.entry(x, 2, 5, FREE, 0, 0, 0, 0, 0);
         // Step 4.
         is.answers(x, dumpDate(2), 10);
+        // Its own level is not lower either.
         is.answers(x, dump(2), 3);
+        is.info(x, 3, 2, 11, 6, 2);
         DumpLevels greatest = States.greatest();
         for (int d = 0; d < 8; d++) {
             is.due("dumps before the call", d, dumpsOf(greatest));
@@ -156,7 +158,10 @@ public final class Promise09Test extends Sentences {
         x.remove(15);
         is.answers(x, dump(2), 4);
         is.answers(x, dumpInfo(4, DUMP_CAPTURED), 1);
-        is.answers(x, dumpInfo(3, DUMP_CAPTURED), 2);
+        int[] counts = {0, 15, 0, 2, 1};
+        for (int d = 0; d < counts.length; d++) {
+            is.answers(x, dumpInfo(d, DUMP_CAPTURED), counts[d]);
+        }
         MixedRun.all((n, limit) -> (y, step) -> {
             if (step.is("dump") && step.answer() >= 0) {
                 int captured = 0;

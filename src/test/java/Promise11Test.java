@@ -40,6 +40,10 @@ public final class Promise11Test extends Sentences {
 
     private static void sentence2MapEntry(Checks is) {
         DumpLevels x = States.busy();
+        x.rename(2, 3, 255);
+        x.remove(4);
+        x.dump(9);
+        x.create(0, 40, DIR);
         for (int d = 0; d < 2; d++) {
             mapIs(is, x, d, 0, DIR, 0, 0);
             mapIs(is, x, d, 1, DIR, 0, 10);
@@ -48,9 +52,6 @@ public final class Promise11Test extends Sentences {
             mapIs(is, x, d, 4, FILE, 0, 13);
             mapIs(is, x, d, 5, FREE, 0, 0);
         }
-        x.rename(2, 3, 255);
-        x.remove(4);
-        x.dump(9);
         mapIs(is, x, 2, 2, FILE, 3, 255);
         mapIs(is, x, 2, 4, FREE, 0, 0);
     }

@@ -24,8 +24,8 @@ public final class Promise14Test extends Sentences {
             + "`dumpInfo(e, DUMP_BASE) == restoreStamp()`; otherwise it answers `ERR_CHAIN` and changes nothing.",
             Promise14Test::sentence13OkIffTheBaseIsTheStamp);
         holds(14, "Chain restore: for every sequence of calls in which the clock has not passed Integer.MAX_VALUE, and "
-            + "every taken dump d with chain d1, .., dk = d, if `restoreReset()` is followed by `restoreApply(d1)`, .., "
-            + "`restoreApply(dk)`, every one of these answers `OK`.", Promise14Test::sentence14ChainAnswersOk);
+            + "every taken dump d with chain d1, .., dk = d, if `restoreReset()` is followed by `restoreApply(d1)`, "
+            + ".., `restoreApply(dk)`, every one of these answers `OK`.", Promise14Test::sentence14ChainAnswersOk);
         holds(15, "Afterwards `restoreStamp()` equals STAMP(d).", Promise14Test::sentence15StampAfterTheChain);
         holds(16, "For every inode i in 0..N-1 and every field f in 0..4, `restoredInfo(i, f)` equals the value "
             + "`inodeInfo(i, f)` had right after `dump(...)` returned d.",
@@ -116,6 +116,7 @@ public final class Promise14Test extends Sentences {
             States.all().values().forEach(state -> is.changesNothing(state, restoreApply(d), ERR_NO_DUMP));
         }
         is.changesNothing(States::least, restoreApply(0), ERR_NO_DUMP);
+        is.changesNothing(States::dumped, restoreApply(1), ERR_CHAIN);
         is.changesNothing(States::busy, restoreApply(2), ERR_NO_DUMP);
         is.changesNothing(States::busy, restoreApply(0), ERR_CHAIN);
         is.changesNothing(States::full, restoreApply(0), ERR_CHAIN);
@@ -255,7 +256,7 @@ public final class Promise14Test extends Sentences {
             "restoredInfo(4, STAMP) = 7", "restoreMatches() = 1");
         is.changes(States.crowded(), restoreApply(2), OK, "restoreStamp() = 21", "restoredInfo(10, CONTENT) = 502",
             "restoredInfo(10, STAMP) = 20");
-        is.changes(busyReset(), restoreApply(0), OK, "restoreStamp() = 6", "restoredInfo(1, KIND) = 2",
+        is.changes(States.dumped(), restoreApply(0), OK, "restoreStamp() = 6", "restoredInfo(1, KIND) = 2",
             "restoredInfo(1, NAME) = 10", "restoredInfo(1, STAMP) = 1", "restoredInfo(2, KIND) = 1",
             "restoredInfo(2, PARENT) = 1", "restoredInfo(2, NAME) = 11", "restoredInfo(2, CONTENT) = 77",
             "restoredInfo(2, STAMP) = 5", "restoredInfo(3, KIND) = 2", "restoredInfo(3, PARENT) = 1",

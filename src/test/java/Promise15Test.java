@@ -43,6 +43,7 @@ public final class Promise15Test extends Sentences {
     private static void sentence2NothingChanges(Checks is) {
         is.changesNothing(States::least, restoreStamp(), 0);
         is.changesNothing(States::greatest, restoreStamp(), 0);
+        is.changesNothing(States::dumped, restoreStamp(), 0);
         is.changesNothing(States::busy, restoreStamp(), 6);
         is.changesNothing(States::full, restoreStamp(), 9);
         is.changesNothing(States::crowded, restoreStamp(), 19);

@@ -84,6 +84,7 @@ public final class Promise17Test extends Sentences {
     private static void sentence2NothingChanges(Checks is) {
         is.changesNothing(States::least, restoreMatches(), 1);
         is.changesNothing(States::greatest, restoreMatches(), 1);
+        is.changesNothing(States::dumped, restoreMatches(), 0);
         is.changesNothing(States::busy, restoreMatches(), 0);
         is.changesNothing(States::full, restoreMatches(), 1);
         is.changesNothing(States::crowded, restoreMatches(), 0);

@@ -1,5 +1,7 @@
 import java.util.ArrayList;
+import java.util.HashMap;
 import java.util.List;
+import java.util.Map;
 
 /**
  * All that an object shows. The asking calls are made with every argument in its range for the greatest
@@ -9,6 +11,8 @@ final class Shown extends Calls {
     private static final String[] FIELDS = {"KIND", "PARENT", "NAME", "CONTENT", "STAMP", "CAPTURED"};
     private static final String[] DUMP_FIELDS = {"LEVEL", "STAMP", "BASE", "CAPTURED"};
     private static final List<Call> QUESTIONS = questions();
+    private static final Map<String, List<Call>> QUESTIONS_WITHOUT = new HashMap<>();
+    private static final List<List<Call>> LATER = laterParts();
 
     private Shown() {
     }
@@ -59,40 +63,57 @@ final class Shown extends Calls {
     }
 
     static int[] by(DumpLevels x) {
-        int[] answers = new int[QUESTIONS.size()];
+        return by(x, QUESTIONS);
+    }
+
+    private static int[] by(DumpLevels x, List<Call> questions) {
+        int[] answers = new int[questions.size()];
         for (int k = 0; k < answers.length; k++) {
-            answers[k] = QUESTIONS.get(k).on(x);
+            answers[k] = questions.get(k).on(x);
         }
         return answers;
     }
 
     /** The answers that are new, each as "call = answer". */
     static List<String> changes(int[] before, int[] after) {
+        return changes(QUESTIONS, before, after);
+    }
+
+    private static List<String> changes(List<Call> questions, int[] before, int[] after) {
         List<String> changed = new ArrayList<>();
         for (int k = 0; k < before.length; k++) {
             if (before[k] != after[k]) {
-                changed.add(QUESTIONS.get(k).text() + " = " + after[k]);
+                changed.add(questions.get(k).text() + " = " + after[k]);
             }
         }
         return changed;
     }
 
     /**
-     * What a fixed run of changing calls answers from here on, with all that is shown between its parts:
-     * it would tell a change that no asking call shows yet.
+     * What is shown now, and what a fixed run of changing calls answers from here on, with what is shown
+     * between its parts: it tells a change that no asking call shows yet. One method is left out, or none
+     * if there is none of that name: what that method itself does to an object shows only against an
+     * object on which it was never called.
      */
-    static List<String> laterOf(DumpLevels x) {
+    static List<String> laterOf(DumpLevels x, String leftOut) {
         List<String> answers = new ArrayList<>();
-        int[] start = by(x);
-        for (List<Call> part : laterParts()) {
-            for (Call call : part) {
+        List<Call> questions = QUESTIONS_WITHOUT.computeIfAbsent(leftOut, name -> without(QUESTIONS, name));
+        // Beside this start, only what is not 0 is told.
+        int[] start = new int[questions.size()];
+        for (List<Call> part : LATER) {
+            int[] now = by(x, questions);
+            answers.addAll(changes(questions, start, now));
+            start = now;
+            for (Call call : without(part, leftOut)) {
                 answers.add(call.text() + " = " + call.on(x));
             }
-            int[] now = by(x);
-            answers.addAll(changes(start, now));
-            start = now;
         }
+        answers.addAll(changes(questions, start, by(x, questions)));
         return answers;
+    }
+
+    private static List<Call> without(List<Call> calls, String method) {
+        return calls.stream().filter(call -> !call.method().equals(method)).toList();
     }
 
     private static List<List<Call>> laterParts() {
@@ -104,7 +125,6 @@ final class Shown extends Calls {
             second.add(dump(9 - d));
             second.add(dump(d));
             second.add(restoreApply(d));
-            third.add(restoreApply(d));
         }
         for (int i = 0; i < 17; i++) {
             first.add(write(i, 1000 + i));
@@ -113,10 +133,19 @@ final class Shown extends Calls {
             second.add(rename(i, 0, 220 + i));
             third.add(remove(16 - i));
         }
-        third.add(restoreReset());
-        for (int d = 0; d < 9; d++) {
-            third.add(restoreApply(d));
+        List<List<Call>> parts = new ArrayList<>(List.of(first, second, third));
+        for (int last = 0; last < 8; last++) {
+            parts.add(restoreUpTo(last));
         }
-        return List.of(first, second, third);
+        return parts;
+    }
+
+    private static List<Call> restoreUpTo(int last) {
+        List<Call> part = new ArrayList<>();
+        part.add(restoreReset());
+        for (int d = 0; d <= last; d++) {
+            part.add(restoreApply(d));
+        }
+        return part;
     }
 }

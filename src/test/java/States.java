@@ -21,6 +21,13 @@ final class States extends Calls {
      * base 6) are taken; dump 0 is applied, which has not the -8. The clock is 8.
      */
     static DumpLevels busy() {
+        DumpLevels x = dumped();
+        x.restoreApply(0);
+        return x;
+    }
+
+    /** As busy, but no dump was ever applied. */
+    static DumpLevels dumped() {
         DumpLevels x = new DumpLevels(6, 4);
         x.create(0, 10, DIR);
         x.create(1, 11, FILE);
@@ -30,7 +37,6 @@ final class States extends Calls {
         x.dump(0);
         x.write(4, -8);
         x.dump(3);
-        x.restoreApply(0);
         return x;
     }
 
@@ -91,6 +97,7 @@ final class States extends Calls {
         Map<String, Supplier<DumpLevels>> all = new LinkedHashMap<>();
         all.put("least", States::least);
         all.put("greatest", States::greatest);
+        all.put("dumped", States::dumped);
         all.put("busy", States::busy);
         all.put("full", States::full);
         all.put("crowded", States::crowded);
